@@ -196,27 +196,31 @@ public final class CharacterDesk {
      * to one of the letters; what a deal leaves of the powers must come from the differences.
      */
     private static int coefficient(int s, int m) {
+        int w = powerOf(s, 0);
+        int x = powerOf(s, 1);
+        int y = powerOf(s, 2);
+        int z = powerOf(s, 3);
         int deals = 1 << (2 * partsAtLeast(m, 1));
         int sum = 0;
         for (int deal = 0; deal < deals; deal++) {
-            int w = powerLeft(s, m, deal, 0);
-            int x = powerLeft(s, m, deal, 1);
-            int y = powerLeft(s, m, deal, 2);
-            int z = powerLeft(s, m, deal, 3);
-            sum += differenceCoefficient(w, x, y, z);
+            int leftW = w - dealtTo(0, m, deal);
+            int leftX = x - dealtTo(1, m, deal);
+            int leftY = y - dealtTo(2, m, deal);
+            int leftZ = z - dealtTo(3, m, deal);
+            sum += differenceCoefficient(leftW, leftX, leftY, leftZ);
         }
         return sum;
     }
 
-    /** What is left of a letter's power when the two bits of deal for each part say who gets it. */
-    private static int powerLeft(int s, int m, int deal, int letter) {
-        int power = powerOf(s, letter);
+    /** The sum of the parts of m that a letter gets; two bits of deal name the letter for each part. */
+    private static int dealtTo(int letter, int m, int deal) {
+        int dealt = 0;
         for (int i = 0; i < LETTERS; i++) {
             if (((deal >> (2 * i)) & 3) == letter) {
-                power -= partOf(m, i);
+                dealt += partOf(m, i);
             }
         }
-        return power;
+        return dealt;
     }
 
     /**
